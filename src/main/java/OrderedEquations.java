@@ -507,7 +507,7 @@ public final class OrderedEquations {
          * (an argument of s that is t or greater than t makes s greater than them all, too), else
          * those of s. No two subterms are then compared twice.
          */
-        static boolean isGreater(Letters s, int i, Letters t, int j, int depth) {
+        private static boolean isGreater(Letters s, int i, Letters t, int j, int depth) {
             int sign = s.codes[i];
             int other = t.codes[j];
             if (isVariable(other)) {
@@ -759,14 +759,12 @@ public final class OrderedEquations {
             return begin;
         }
 
+        /** Unifies two terms of the row; whether that does not fail. */
         boolean solve(int s, int t) {
             Arrays.fill(values, NOWHERE);
             pairs = 0;
             push(s, t);
-            for (int turn = 0; pairs > 0; turn++) {
-                if (turn == MOST_PAIRS) {
-                    return false;
-                }
+            for (int turn = 0; turn < MOST_PAIRS && pairs > 0; turn++) {
                 pairs--;
                 int first = look(firsts[pairs]);
                 int second = look(seconds[pairs]);
@@ -786,7 +784,7 @@ public final class OrderedEquations {
                     pushArguments(first, second, argumentsOf(a));
                 }
             }
-            return true;
+            return pairs == 0;
         }
 
         private void push(int s, int t) {
