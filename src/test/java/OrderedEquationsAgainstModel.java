@@ -1,3 +1,4 @@
+import java.lang.reflect.InvocationTargetException;
 import java.util.ArrayDeque;
 import java.util.ArrayList;
 import java.util.Arrays;
@@ -115,13 +116,13 @@ public final class OrderedEquationsAgainstModel {
             int flavour = pick(4);
             if (flavour < 3) {
                 for (String axiom : theory) {
-                    call("axiom", axiom, 0, 0);
+                    call("axiom", axiom);
                 }
             }
             if (flavour == 1) {
                 String[] more = THEORIES[pick(THEORIES.length)];
                 for (String axiom : more) {
-                    call("axiom", axiom, 0, 0);
+                    call("axiom", axiom);
                 }
             }
             boolean eager = pick(3) == 0;
@@ -137,33 +138,33 @@ public final class OrderedEquationsAgainstModel {
         void turn(boolean eager) {
             int which = pick(eager ? 12 : 17);
             if (which < 4) {
-                call("step", null, 0, 0);
+                call("step", null);
             } else if (which == 4) {
-                call("steps", null, pick(24) - 1, 0);
+                call("steps", null, pick(24) - 1);
             } else if (which == 5) {
-                call("reduce", term(pick(16) + 1, true), 0, 0);
+                call("reduce", term(pick(16) + 1, true));
             } else if (which == 6) {
                 String s = term(pick(9) + 1, false);
-                call("goal", s + "=" + (pick(3) == 0 ? shuffled(s) : term(pick(9) + 1, false)), 0, 0);
+                call("goal", s + "=" + (pick(3) == 0 ? shuffled(s) : term(pick(9) + 1, false)));
             } else if (which == 7) {
                 call("show", null, pick(5) - 1, pick(12) - 1);
             } else if (which == 8) {
-                call("count", null, pick(5) - 1, 0);
+                call("count", null, pick(5) - 1);
             } else if (which < 12) {
                 String s = term(pick(6) + 1, true);
-                call("axiom", s + "=" + (pick(4) == 0 ? shuffled(s) : term(pick(5) + 1, true)), 0, 0);
+                call("axiom", s + "=" + (pick(4) == 0 ? shuffled(s) : term(pick(5) + 1, true)));
             } else if (which == 12) {
                 String s = term(pick(10) + 1, true);
-                call("compare", s + "=" + (pick(2) == 0 ? shuffled(s) : term(pick(10) + 1, true)), 0, 0);
+                call("compare", s + "=" + (pick(2) == 0 ? shuffled(s) : term(pick(10) + 1, true)));
             } else if (which == 13) {
-                call("unify", unification(), 0, 0);
+                call("unify", unification());
             } else if (which == 14) {
                 String[] readers = {"axiom", "goal", "compare", "unify", "reduce"};
-                call(readers[pick(5)], spoiled(term(pick(8) + 1, true) + "=" + term(pick(8), true)), 0, 0);
+                call(readers[pick(5)], spoiled(term(pick(8) + 1, true) + "=" + term(pick(8), true)));
             } else if (which == 15) {
-                call("wipe", term(pick(25) + 1, true), 0, 0);
+                call("wipe", term(pick(25) + 1, true));
             } else {
-                call("reduce", pick(3) == 0 ? "ffffffffgggggggga" : term(28, pick(2) == 0), 0, 0);
+                call("reduce", pick(3) == 0 ? "ffffffffgggggggga" : term(28, pick(2) == 0));
             }
         }
 
@@ -228,7 +229,7 @@ public final class OrderedEquationsAgainstModel {
         }
 
         /** Types a text, makes a call on both, and compares the answers, the page and the counts. */
-        void call(String name, String text, int i, int k) {
+        void call(String name, String text, int... arguments) {
             if (text != null) {
                 for (char c : text.toCharArray()) {
                     boolean got = subject.type(c);
@@ -236,11 +237,11 @@ public final class OrderedEquationsAgainstModel {
                     calls++;
                 }
             }
-            String due = answer(model, name, i, k);
-            String got = answer(subject, name, i, k);
+            String due = answer(model, name, arguments);
+            String got = answer(subject, name, arguments);
             calls++;
-            told.append(text == null ? "" : text + " ").append(name).append(' ').append(i).append(' ')
-                    .append(k).append(" -> ").append(got).append('\n');
+            told.append(text == null ? "" : text + " ").append(name)
+                    .append(Arrays.toString(arguments)).append(" -> ").append(got).append('\n');
             if (!got.equals(due)) {
                 told.append("  due is ").append(due).append('\n');
                 wrong = true;
@@ -262,41 +263,20 @@ public final class OrderedEquationsAgainstModel {
             }
         }
 
-        static String answer(OrderedEquations x, String name, int i, int k) {
-            try {
-                switch (name) {
-                    case "axiom": return "" + x.axiom();
-                    case "goal": return "" + x.goal();
-                    case "step": return "" + x.step();
-                    case "steps": return "" + x.steps(i);
-                    case "count": return "" + x.count(i);
-                    case "show": return "" + x.show(i, k);
-                    case "compare": return "" + x.compare();
-                    case "unify": return "" + x.unify();
-                    case "reduce": return "" + x.reduce();
-                    default: return "" + x.wipe();
-                }
-            } catch (RuntimeException e) {
-                return e.getClass().getSimpleName();
+        /** By name, so that both, which share no type, are called alike. */
+        static String answer(Object x, String name, int... arguments) {
+            Class<?>[] kinds = new Class<?>[arguments.length];
+            Object[] values = new Object[arguments.length];
+            for (int i = 0; i < arguments.length; i++) {
+                kinds[i] = int.class;
+                values[i] = arguments[i];
             }
-        }
-
-        static String answer(Model x, String name, int i, int k) {
             try {
-                switch (name) {
-                    case "axiom": return "" + x.axiom();
-                    case "goal": return "" + x.goal();
-                    case "step": return "" + x.step();
-                    case "steps": return "" + x.steps(i);
-                    case "count": return "" + x.count(i);
-                    case "show": return "" + x.show(i, k);
-                    case "compare": return "" + x.compare();
-                    case "unify": return "" + x.unify();
-                    case "reduce": return "" + x.reduce();
-                    default: return "" + x.wipe();
-                }
-            } catch (RuntimeException e) {
-                return e.getClass().getSimpleName();
+                return "" + x.getClass().getDeclaredMethod(name, kinds).invoke(x, values);
+            } catch (InvocationTargetException e) {
+                return e.getCause().getClass().getSimpleName();
+            } catch (ReflectiveOperationException e) {
+                throw new IllegalStateException(e);
             }
         }
     }
