@@ -14,8 +14,11 @@ import java.util.TreeSet;
  * by word over plain strings. The edges that the document names must all have been met in them.
  */
 public final class OrderedEquationsAgainstModel {
-    private static final int RUNS = 1000;
+    private static final int RUNS = 1500;
     private static final int MOST_CALLS = 512;
+    /** The call, and a page of 61 with its length and a place before and behind it. */
+    private static final int DEAREST_SHOW = 1 + 64;
+    private static final int DEAREST_CALL = 60 + DEAREST_SHOW;
     private static final String[] EDGES = {
         "unify: signs differ", "unify: occurs", "unify: weight above 300", "unify: 301st pair",
         "unify: instance above 60", "reduce: 50 times", "reduce: passed over for weight 30",
@@ -126,8 +129,12 @@ public final class OrderedEquationsAgainstModel {
                 }
             }
             boolean eager = pick(3) == 0;
-            while (!wrong && calls < MOST_CALLS - 70) {
+            while (!wrong && calls < MOST_CALLS - DEAREST_CALL) {
                 turn(eager);
+            }
+            // The calls that are left tell what there is by now.
+            for (int i = 0; !wrong && calls < MOST_CALLS - DEAREST_SHOW; i++) {
+                call("show", null, i % 2, i / 2);
             }
             if (wrong) {
                 System.out.println("run " + number + ":\n" + told);
@@ -228,7 +235,7 @@ public final class OrderedEquationsAgainstModel {
             return made.toString();
         }
 
-        /** Types a text, makes a call on both, and compares the answers, the page and the counts. */
+        /** Types a text, makes a call on both, and compares the answers and what may have changed. */
         void call(String name, String text, int... arguments) {
             if (text != null) {
                 for (char c : text.toCharArray()) {
@@ -246,14 +253,28 @@ public final class OrderedEquationsAgainstModel {
                 told.append("  due is ").append(due).append('\n');
                 wrong = true;
             }
+            if (name.equals("show") || name.equals("unify") || name.equals("reduce")) {
+                checkPage();
+            } else {
+                checkCounts();
+            }
+        }
+
+        void checkPage() {
             check("length", subject.length(), model.page.length());
+            calls++;
             for (int p = -1; p <= model.page.length(); p++) {
                 boolean there = p >= 0 && p < model.page.length();
                 check("charAt " + p, subject.charAt(p), there ? model.page.charAt(p) : ' ');
+                calls++;
             }
+        }
+
+        void checkCounts() {
             check("active", subject.count(0), model.active.size());
             check("waiting", subject.count(1), model.waiting.size());
             check("lost", subject.count(2), model.lost);
+            calls += 3;
         }
 
         void check(String what, int got, int due) {

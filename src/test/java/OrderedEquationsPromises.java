@@ -661,8 +661,8 @@ public final class OrderedEquationsPromises {
         OrderedEquations first = withActives("fga=c", "gu=qud");
         due("12: nothing of it", count(first, 0), 2);
         due("12: the first subterm", reduced(first, "fga"), "1 c");
-        OrderedEquations e = withActives("puv=u", "pua=v");
-        due("12: the first equation", reduced(e, "pba"), "1 b");
+        OrderedEquations e = withActives("fc=c", "fu=b");
+        due("12: the first equation", reduced(e, "fc"), "1 c");
         OrderedEquations l = withActives("pufv=pfuv");
         due("12: the left side matches, not used", reduced(l, "pcfd"), "0 pcfd");
         due("12: the right side matches, used", reduced(l, "pfcd"), "1 pcfd");
